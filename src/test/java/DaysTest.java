@@ -18,6 +18,7 @@ public final class DaysTest {
         eat();
         heed();
         heedAfterMove();
+        heedAfterUndo();
         undoEach();
         undoLastEight();
         undoAfterRefused();
@@ -205,6 +206,18 @@ public final class DaysTest {
         x.move(0, 1);
         due("an egg that was wrong stays wrong", x.heed(0), 9998);
         due("an egg that was right stays right", x.heed(1), 10000);
+    }
+
+    private static void heedAfterUndo() {
+        HenOracle x = Checks.yardOf("place 1 3 0;layer 0;news 0 1");
+        x.day();
+        x.keep(0);
+        x.day();
+        x.undo();
+        due("the right egg of the day before", x.heed(0), 10001);
+        x.day();
+        x.back(0);
+        due("the right egg as kept", x.heed(0), 10001);
     }
 
     private static void undoEach() {

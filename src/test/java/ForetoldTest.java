@@ -124,7 +124,13 @@ public final class ForetoldTest {
         due("trough(2) in thunder", x.trough(2), 1);
         x.move(0, 1);
         due("trough(3), moved already", x.trough(3), HenOracle.NONE);
-        // Two DAYS at 0 and two at 1: the pair by which most come right wins over the first that helps.
+        // To and fro between 0 and 2: 0 by 1 helps on DAY 0 alone, 0 by 2 on both DAYS.
+        HenOracle both = Checks.yardOf("place 1 3 0;place 2 0 0;place 2 2 0;layer 3;news 0 2;news 1 1");
+        due("trough, by both of its places", both.trough(2), 2);
+        due("trough, by the first of its places", both.trough(1), 1);
+        HenOracle apart = Checks.yardOf("place 2 9 0;place 3 1 0;place 1 0 0;layer 0;news 0 7");
+        due("trough, news that no place means", apart.trough(1), HenOracle.NONE);
+        // The first hen at 0, the other at 1: 3 helps on two DAYS at either, 2 is lost on DAY 2 at 1.
         HenOracle y = Checks.yardOf("place 1 3 0;place 2 2 0;place 3 1 0;place 3 0 0;layer 0;layer 0;news 0 3;news 1 3;"
             + "news 2 2");
         due("trough, the first of most", y.trough(3), 2);

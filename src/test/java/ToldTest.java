@@ -6,6 +6,7 @@ public final class ToldTest {
         newObject();
         write();
         erase();
+        eraseForGood();
         faultsOfWords();
         faultsOfNumbers();
         faultsOfTooMany();
@@ -68,6 +69,29 @@ public final class ToldTest {
         due("text after erase", x.fault(), HenOracle.NONE);
     }
 
+    /** Letters of an erased text lie behind the new one's end, and are not read. */
+    private static void eraseForGood() {
+        String[][] texts = {{"calm;calm", "calm"}, {"layer 19", "layer 1"}, {"layer 1 9", "layer 1"},
+            {"calmly", "calm"}, {"calm    ;", "calm  "}};
+        for (String[] pair : texts) {
+            HenOracle x = new HenOracle();
+            Checks.write(x, pair[0]);
+            x.erase();
+            Checks.write(x, pair[1]);
+            due("'" + pair[1] + "' over '" + pair[0] + "'", x.fault(), HenOracle.NONE);
+        }
+        HenOracle x = new HenOracle();
+        Checks.write(x, "place 1 1      ");
+        x.erase();
+        Checks.write(x, "place 1 1 ");
+        due("an end that comes too soon, over blanks", x.fault(), 10);
+        x.erase();
+        Checks.write(x, "place 1 1 1");
+        x.erase();
+        Checks.write(x, "place 1 1 ");
+        due("an end that comes too soon, over a number", x.fault(), 10);
+    }
+
     private static void dueFault(String text, int want) {
         HenOracle x = new HenOracle();
         Checks.write(x, text);
@@ -96,6 +120,9 @@ public final class ToldTest {
         dueFault("calm 3", 5);
         dueFault("calm3", 4);
         dueFault("yards", 0);
+        dueFault("yardz", 0);
+        dueFault("yarda", 0);
+        dueFault("bard", 0);
         dueFault("yar", 0);
         dueFault("Yard", 0);
         dueFault("yarD", 0);
@@ -346,6 +373,7 @@ public final class ToldTest {
         due("china, 9 by 3 places", china.as(0, 4), 9999 + 1);
         due("china, 8 by 3 places", china.as(1, 4), 9999);
         due("china, 0", china.as(2, 0), 9999 + 1);
+        due("china, 7 by one place", Checks.yardOf("place 0 0 0;china 7").as(0, 4), 9999 + 1);
     }
 
     private static void asRefused() {
